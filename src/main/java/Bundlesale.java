@@ -448,7 +448,7 @@ public final class Bundlesale {
     public String demand(int bidder) throws IndexOutOfBoundsException {
         needBidder(bidder);
         outcome.know(WHOLES);
-        search.lookForOwn(bidder, book.price, GOODS);
+        search.lookFor(search.ownThatCanWin(bidder), book.value, book.price, GOODS);
         return rowOfSet(search.bestSet);
     }
 
@@ -459,7 +459,7 @@ public final class Bundlesale {
         }
         for (int bidder = 0; bidder < book.bidders; bidder++) {
             int goods = search.goodsOf(outcome.told & search.own[bidder]);
-            search.lookForOwn(bidder, book.price, GOODS);
+            search.lookFor(search.ownThatCanWin(bidder), book.value, book.price, GOODS);
             if (outcome.has[bidder] - sumOver(goods, book.price) != search.bestWorth) {
                 return false;
             }
@@ -1001,7 +1001,7 @@ public final class Bundlesale {
         final Book book;
         final int[] whole = new int[BIDS];
         final int[] own = new int[BIDDERS];
-        private final int[] cap = new int[BIDDERS];
+        final int[] cap = new int[BIDDERS];
         int canWin = 0;
 
         private int[] value = NO_PRICES;
@@ -1043,8 +1043,8 @@ public final class Bundlesale {
             }
         }
 
-        void lookForOwn(int bidder, int[] price, int most) {
-            lookFor(canWin & own[bidder], book.value, price, most);
+        int ownThatCanWin(int bidder) {
+            return canWin & own[bidder];
         }
 
         void lookFor(int bids, int[] values, int[] price, int most) {
@@ -1141,7 +1141,7 @@ public final class Bundlesale {
         int hasOf(int bidder, int bids, int[] values) {
             int has = 0;
             for (int bid = 0; bid < book.bids; bid++) {
-                if ((bids & own[bidder] & 1 << bid) != 0) {
+                if ((bids & own[bidder] & (1 << bid)) != 0) {
                     has += values[bid];
                 }
             }
@@ -1171,7 +1171,7 @@ public final class Bundlesale {
         int offerFor(int bidder, int good) {
             int most = 0;
             for (int bid = 0; bid < book.bids; bid++) {
-                if ((canWin & own[bidder] & 1 << bid) != 0 && whole[bid] == 1 << good) {
+                if ((ownThatCanWin(bidder) >> bid & 1) == 1 && whole[bid] == 1 << good) {
                     most = Math.max(most, book.value[bid]);
                 }
             }
@@ -1273,7 +1273,7 @@ public final class Bundlesale {
             int sum = 0;
             int greatest = 0;
             for (int bid = 0; bid < book.bids; bid++) {
-                if ((search.canWin & search.own[bidder] & 1 << bid) != 0) {
+                if ((search.ownThatCanWin(bidder) >> bid & 1) == 1) {
                     sum += book.value[bid];
                     greatest = Math.max(greatest, book.value[bid]);
                 }
@@ -1452,7 +1452,7 @@ public final class Bundlesale {
             }
         }
 
-        /** Nobody pays more than the greatest need that it is in: a coin less would do, and the sum is to be the least. */
+        /** Nobody pays more than the greatest need that it is in: a coin less would do, and a lesser sum is due. */
         private void measureRooms() {
             for (int bidder = 0; bidder < BIDDERS; bidder++) {
                 int greatest = 0;
@@ -1633,7 +1633,7 @@ public final class Bundlesale {
             int wantedByTwo = 0;
             for (int bidder = 0; bidder < book.bidders; bidder++) {
                 int most = isBounded ? Integer.bitCount(wanted[bidder]) : GOODS;
-                search.lookForOwn(bidder, price, most);
+                search.lookFor(search.ownThatCanWin(bidder), book.value, price, most);
                 wanted[bidder] = search.goodsOf(search.bestSet);
                 wantedByTwo |= wantedByOne & wanted[bidder];
                 wantedByOne |= wanted[bidder];
@@ -1690,7 +1690,7 @@ public final class Bundlesale {
             int most = step - 1;
             for (int bid = 0; bid < book.bids; bid++) {
                 int above = book.value[bid] - offered[bid];
-                if ((search.canWin & search.own[bidder] & 1 << bid) != 0 && above > most) {
+                if ((search.ownThatCanWin(bidder) >> bid & 1) == 1 && above > most) {
                     most = above;
                     found = bid;
                 }

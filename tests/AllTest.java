@@ -1,0 +1,151 @@
+/** Promises 49 to 51: house, isSound, digest; and that 512 calls of the dearest kind fit in their room. */
+public final class AllTest {
+    private static final Class<IllegalArgumentException> ARGUMENT = IllegalArgumentException.class;
+
+    private static Bundlesale full(int first) {
+        Bundlesale x = new Bundlesale();
+        for (int k = 0; k < 4; k++) {
+            x.bidder((k + first) & 1);
+        }
+        int[] bundles = {1, 2, 4, 8, 16, 32, 3, 12, 48, 5, 10, 36, 24, 6, 33, 63};
+        for (int k = 0; k < 16; k++) {
+            x.bid(k % 4, bundles[k], 20 + Integer.bitCount(bundles[k]) * 10 + k % 5);
+        }
+        for (int k = 0; k < 8; k++) {
+            x.offer(true, 999 - 50 * k);
+            x.offer(false, 100 + 60 * k);
+        }
+        for (int k = 0; k < 4; k++) {
+            x.worths(k, 99 - k, 90 - k, 80 - k);
+        }
+        return x;
+    }
+
+    private static void promise49() {
+        Bundlesale x = new Bundlesale();
+        x.bidder(1);
+        x.bid(0, 1, 5);
+        x.bid(0, 2, 6);
+        x.bid(0, 4, 7);
+        x.out(2, true);
+        x.limit(7);
+        x.say(1, 2, 3, -1, -1, -1);
+        x.offer(true, 5);
+        x.offer(false, 5);
+        x.offer(false, 6);
+        x.knock();
+        x.knock();
+        x.knock();
+        x.freeze(true);
+        int[] want = {1, 3, 2, 5, 7, 3, 1, 2, 0, 11, 1, 3};
+        for (int what = 0; what <= 11; what++) {
+            Check.due("49: house(" + what + ")", x.house(what), want[what]);
+        }
+        x.sell(0);
+        Check.due("49: bids that are left", x.house(1), 1);
+        Check.due("49: can win", x.house(2), 0);
+        Check.due("49: live", x.house(3), 3);
+        Check.due("49: paid", x.house(8), 11);
+        Check.due("49: can be undone", x.house(9), 12);
+        Check.throwing("49: -1", ARGUMENT, () -> x.house(-1));
+        Check.throwing("49: 12", ARGUMENT, () -> x.house(12));
+    }
+
+    private static void promise50() {
+        Check.due("50: a new one", new Bundlesale().isSound(), true);
+        for (int first = 0; first <= 1; first++) {
+            Bundlesale x = full(first);
+            Check.due("50: full", x.isSound(), true);
+            x.limit(3);
+            Check.due("50: open", x.isSound(), true);
+            x.limit(16);
+            x.budget(1, 37);
+            x.budget(2, 0);
+            Check.due("50: budgets", x.isSound(), true);
+            x.join(1, 2, true);
+            x.out(5, true);
+            Check.due("50: teams", x.isSound(), true);
+            x.sell(2);
+            Check.due("50: sold", x.isSound(), true);
+        }
+    }
+
+    private static long add(long d, long v) {
+        return d * 31 + v;
+    }
+
+    private static long add(long d, String text) {
+        return d * 31 + text.length();
+    }
+
+    private static long add(long d, boolean is) {
+        return d * 31 + (is ? 1 : 0);
+    }
+
+    /** The digest as the document tells it, from the other calls. */
+    private static long digestOf(Bundlesale x) {
+        long d = 6901;
+        for (int what = 0; what <= 11; what++) d = add(d, x.house(what));
+        for (int bid = 0; bid < x.house(1); bid++) {
+            for (int what = 0; what <= 5; what++) d = add(d, x.ofBid(bid, what));
+        }
+        d = add(add(d, x.list()), x.fault());
+        for (int good = 0; good < 6; good++) {
+            d = add(add(d, x.team(good)), x.owner(good));
+            d = add(add(d, x.edge(good, true)), x.edge(good, false));
+        }
+        d = add(add(d, x.forms()), x.sale());
+        d = add(add(add(d, x.bound(false)), x.bound(true)), x.count());
+        for (int bidder = 0; bidder < x.house(0); bidder++) {
+            for (int what = 0; what <= 2; what++) d = add(d, x.gets(bidder, what));
+            for (int rule = 0; rule <= 2; rule++) d = add(d, x.pays(bidder, rule));
+            d = add(add(add(d, x.demand(bidder)), x.shapley(bidder)), x.fee(bidder, 100));
+        }
+        d = add(add(d, x.cuts()), x.hold());
+        d = add(add(add(d, x.clock(20, false)), x.clock(20, true)), x.proxy(20));
+        d = add(add(add(d, x.handOut(5, 2)), x.trades()), x.lost());
+        return add(add(add(d, x.matched()), x.stand()), x.isSound());
+    }
+
+    private static void promise51() {
+        Bundlesale empty = new Bundlesale();
+        Check.due("51: a new one", empty.digest(), digestOf(empty));
+        for (int first = 0; first <= 1; first++) {
+            Bundlesale x = full(first);
+            Check.due("51: full", x.digest(), digestOf(x));
+            x.price(0, 30);
+            x.say(0, 10, 1, 11, 5, 12);
+            Check.due("51: more", x.digest(), digestOf(x));
+            x.limit(3);
+            Check.due("51: open", x.digest(), digestOf(x));
+            x.limit(16);
+            x.budget(0, 33);
+            x.sell(2);
+            x.knock();
+            Check.due("51: sold", x.digest(), digestOf(x));
+            Check.due("51: asking changes nothing", x.digest(), digestOf(x));
+        }
+    }
+
+    /** All calls of a run have room for some 7.3 million fields and elements: 512 of the dearest call are to fit. */
+    private static void room() {
+        com.sun.management.ThreadMXBean meter =
+            (com.sun.management.ThreadMXBean) java.lang.management.ManagementFactory.getThreadMXBean();
+        full(0).digest();
+        long before = meter.getCurrentThreadAllocatedBytes();
+        Bundlesale x = full(0);
+        for (int k = 0; k < 450; k++) {
+            x.digest();
+        }
+        long bytes = meter.getCurrentThreadAllocatedBytes() - before;
+        Check.due("room: " + bytes + " bytes are at most 3,000,000", bytes <= 3000000, true);
+    }
+
+    public static void main(String[] args) {
+        promise49();
+        promise50();
+        promise51();
+        room();
+        Check.end("AllTest");
+    }
+}
