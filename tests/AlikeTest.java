@@ -1,8 +1,5 @@
 /** Promises 40 to 43: what is asked of one good, of alike ones, of trades. */
 public final class AlikeTest {
-    private static final Class<IllegalArgumentException> ARGUMENT = IllegalArgumentException.class;
-    private static final Class<IndexOutOfBoundsException> INDEX = IndexOutOfBoundsException.class;
-
     private static void promise40() {
         Bundlesale x = new Bundlesale();
         Check.due("40: nobody", x.single(0, 0, 0), "-");
@@ -35,18 +32,18 @@ public final class AlikeTest {
         Check.due("40: not as a whole", x.single(2, 0, 0), "-");
         x.out(0, true);
         Check.due("40: out", x.single(0, 0, 0), "-");
-        Check.throwing("40: good 6", INDEX, () -> x.single(6, 9, 0));
-        Check.throwing("40: good -1", INDEX, () -> x.single(-1, 0, 0));
-        Check.throwing("40: kind 3", ARGUMENT, () -> x.single(0, 3, 0));
-        Check.throwing("40: kind -1", ARGUMENT, () -> x.single(0, -1, 0));
-        Check.throwing("40: least 100", ARGUMENT, () -> x.single(0, 0, 100));
-        Check.throwing("40: least -1", ARGUMENT, () -> x.single(0, 0, -1));
+        Check.throwing("40: good 6", Check.INDEX, () -> x.single(6, 9, 0));
+        Check.throwing("40: good -1", Check.INDEX, () -> x.single(-1, 0, 0));
+        Check.throwing("40: kind 3", Check.ARGUMENT, () -> x.single(0, 3, 0));
+        Check.throwing("40: kind -1", Check.ARGUMENT, () -> x.single(0, -1, 0));
+        Check.throwing("40: least 100", Check.ARGUMENT, () -> x.single(0, 0, 100));
+        Check.throwing("40: least -1", Check.ARGUMENT, () -> x.single(0, 0, -1));
     }
 
     private static void promise41() {
         Bundlesale x = new Bundlesale();
         Check.due("41: no bidders", x.handOut(12, 0), "");
-        Check.throwing("41: no bidders, 13", ARGUMENT, () -> x.handOut(13, 0));
+        Check.throwing("41: no bidders, 13", Check.ARGUMENT, () -> x.handOut(13, 0));
         for (int k = 0; k < 3; k++) {
             x.bidder(0);
         }
@@ -63,9 +60,9 @@ public final class AlikeTest {
         Check.due("41: all", x.handOut(12, 0), "3 22 3 16 2 10");
         Check.due("41: all, nothing is left", x.handOut(12, 1), "3 0 3 0 2 0");
         Check.due("41: 0 gets none", x.handOut(9, 2), "3 0 3 0 2 0");
-        Check.throwing("41: -1", ARGUMENT, () -> x.handOut(-1, 0));
-        Check.throwing("41: kind 3", ARGUMENT, () -> x.handOut(1, 3));
-        Check.throwing("41: kind -1", ARGUMENT, () -> x.handOut(1, -1));
+        Check.throwing("41: -1", Check.ARGUMENT, () -> x.handOut(-1, 0));
+        Check.throwing("41: kind 3", Check.ARGUMENT, () -> x.handOut(1, 3));
+        Check.throwing("41: kind -1", Check.ARGUMENT, () -> x.handOut(1, -1));
     }
 
     private static Bundlesale market(int[] buyers, int[] sellers) {

@@ -1,7 +1,5 @@
 /** Promises 49 to 51: house, isSound, digest; and that 512 calls of the dearest kind fit in their room. */
 public final class AllTest {
-    private static final Class<IllegalArgumentException> ARGUMENT = IllegalArgumentException.class;
-
     private static Bundlesale full(int first) {
         Bundlesale x = new Bundlesale();
         for (int k = 0; k < 4; k++) {
@@ -47,8 +45,8 @@ public final class AllTest {
         Check.due("49: live", x.house(3), 3);
         Check.due("49: paid", x.house(8), 11);
         Check.due("49: can be undone", x.house(9), 12);
-        Check.throwing("49: -1", ARGUMENT, () -> x.house(-1));
-        Check.throwing("49: 12", ARGUMENT, () -> x.house(12));
+        Check.throwing("49: -1", Check.ARGUMENT, () -> x.house(-1));
+        Check.throwing("49: 12", Check.ARGUMENT, () -> x.house(12));
     }
 
     private static void promise50() {

@@ -1,20 +1,10 @@
 /** Promises 20 to 26: what is asked of goods and bids. */
 public final class AskedTest {
-    private static final Class<IllegalArgumentException> ARGUMENT = IllegalArgumentException.class;
-    private static final Class<IndexOutOfBoundsException> INDEX = IndexOutOfBoundsException.class;
-
-    private static void type(Bundlesale x, String text) {
-        x.say(14, -1, -1, -1, -1, -1);
-        for (char sign : text.toCharArray()) {
-            x.say("0123456789:=;".indexOf(sign), -1, -1, -1, -1, -1);
-        }
-    }
-
     private static void promise20() {
         Bundlesale x = new Bundlesale();
         x.bidder(0);
         x.bidder(1);
-        Check.throwing("20: no bid", INDEX, () -> x.ofBid(0, 0));
+        Check.throwing("20: no bid", Check.INDEX, () -> x.ofBid(0, 0));
         x.bid(0, 5, 40);
         x.bid(1, 2, 30);
         x.bid(1, 8, 20);
@@ -28,10 +18,10 @@ public final class AskedTest {
         }
         x.out(4, true);
         Check.due("20: a joined good is out", x.ofBid(1, 4), 0);
-        Check.throwing("20: bid 3", INDEX, () -> x.ofBid(3, 9));
-        Check.throwing("20: bid -1", INDEX, () -> x.ofBid(-1, 0));
-        Check.throwing("20: what -1", ARGUMENT, () -> x.ofBid(0, -1));
-        Check.throwing("20: what 6", ARGUMENT, () -> x.ofBid(0, 6));
+        Check.throwing("20: bid 3", Check.INDEX, () -> x.ofBid(3, 9));
+        Check.throwing("20: bid -1", Check.INDEX, () -> x.ofBid(-1, 0));
+        Check.throwing("20: what -1", Check.ARGUMENT, () -> x.ofBid(0, -1));
+        Check.throwing("20: what 6", Check.ARGUMENT, () -> x.ofBid(0, 6));
         x.out(4, false);
         x.bid(0, 16, 99);
         Check.due("20: beaten", x.ofBid(1, 5), 0);
@@ -64,12 +54,12 @@ public final class AskedTest {
     private static void promise22() {
         Bundlesale x = new Bundlesale();
         Check.due("22: empty", x.typed(), "");
-        type(x, ";:=0987654321");
+        Houses.type(x, ";:=0987654321");
         Check.due("22: all signs", x.typed(), ";:=0987654321");
     }
 
     private static void wrong(Bundlesale x, String text, int want) {
-        type(x, text);
+        Houses.type(x, text);
         Check.due("23: " + text, x.fault(), want);
     }
 
@@ -115,8 +105,8 @@ public final class AskedTest {
         Check.due("24: another team", x.team(2), 6);
         x.out(0, true);
         Check.due("24: out or not", x.team(3), 41);
-        Check.throwing("24: 6", INDEX, () -> x.team(6));
-        Check.throwing("24: -1", INDEX, () -> x.team(-1));
+        Check.throwing("24: 6", Check.INDEX, () -> x.team(6));
+        Check.throwing("24: -1", Check.INDEX, () -> x.team(-1));
     }
 
     private static void promise25() {
@@ -129,8 +119,8 @@ public final class AskedTest {
         Check.due("25: sold", x.owner(0), 1);
         Check.due("25: live", x.owner(1), -1);
         Check.due("25: out", x.owner(2), -9);
-        Check.throwing("25: 6", INDEX, () -> x.owner(6));
-        Check.throwing("25: -1", INDEX, () -> x.owner(-1));
+        Check.throwing("25: 6", Check.INDEX, () -> x.owner(6));
+        Check.throwing("25: -1", Check.INDEX, () -> x.owner(-1));
     }
 
     private static int formsOf(int... bundles) {

@@ -6,6 +6,10 @@ final class Check {
         Object answer();
     }
 
+    static final Class<IllegalArgumentException> ARGUMENT = IllegalArgumentException.class;
+    static final Class<IllegalStateException> STATE = IllegalStateException.class;
+    static final Class<IndexOutOfBoundsException> INDEX = IndexOutOfBoundsException.class;
+
     private static int asked = 0;
     private static int wrong = 0;
 

@@ -1,18 +1,7 @@
 /** Promises 44 to 48: what is asked of matched markets and shares. */
 public final class MatchedTest {
-    private static final Class<IllegalArgumentException> ARGUMENT = IllegalArgumentException.class;
-    private static final Class<IndexOutOfBoundsException> INDEX = IndexOutOfBoundsException.class;
-
-    private static Bundlesale with(int... forms) {
-        Bundlesale x = new Bundlesale();
-        for (int form : forms) {
-            x.bidder(form);
-        }
-        return x;
-    }
-
     private static Bundlesale three() {
-        Bundlesale x = with(0, 1, 0);
+        Bundlesale x = Houses.with(0, 1, 0);
         x.bid(0, 1, 10);
         x.bid(0, 2, 8);
         x.bid(1, 1, 9);
@@ -22,8 +11,8 @@ public final class MatchedTest {
     }
 
     private static void promise44() {
-        Check.due("44: no bidders", with().matched(), "");
-        Check.due("44: no bids", with(0, 0).matched(), "- -");
+        Check.due("44: no bidders", Houses.with().matched(), "");
+        Check.due("44: no bids", Houses.with(0, 0).matched(), "- -");
         Bundlesale x = three();
         Check.due("44: the greatest sum", x.matched(), "1 0 -");
         x.change(4, 7);
@@ -40,7 +29,7 @@ public final class MatchedTest {
         Check.due("44: a team is no good of it", x.matched(), "1 - -");
         x.out(1, true);
         Check.due("44: out", x.matched(), "- - -");
-        Bundlesale y = with(0, 0);
+        Bundlesale y = Houses.with(0, 0);
         y.bid(0, 1, 5);
         y.bid(1, 1, 5);
         Check.due("44: something ahead of nothing", y.matched(), "0 -");
@@ -66,13 +55,13 @@ public final class MatchedTest {
         x.limit(16);
         x.sell(0);
         Check.due("45: sold", x.edge(0, true), -9);
-        Check.throwing("45: 6", INDEX, () -> x.edge(6, true));
-        Check.throwing("45: -1", INDEX, () -> x.edge(-1, false));
-        Check.due("45: without bidders", with().edge(0, true), 0);
+        Check.throwing("45: 6", Check.INDEX, () -> x.edge(6, true));
+        Check.throwing("45: -1", Check.INDEX, () -> x.edge(-1, false));
+        Check.due("45: without bidders", Houses.with().edge(0, true), 0);
     }
 
     private static void promise46() {
-        Check.due("46: nothing", with().stand(), true);
+        Check.due("46: nothing", Houses.with().stand(), true);
         Bundlesale x = three();
         Check.due("46: without prices", x.stand(), false);
         x.price(0, 7);
@@ -98,7 +87,7 @@ public final class MatchedTest {
     }
 
     private static void promise47() {
-        Bundlesale x = with(0, 0, 0);
+        Bundlesale x = Houses.with(0, 0, 0);
         Check.due("47: nothing", x.shapley(0), "0");
         x.bid(0, 1, 12);
         x.bid(1, 1, 6);
@@ -109,15 +98,15 @@ public final class MatchedTest {
         x.bid(2, 2, 2);
         Check.due("47: a third", x.shapley(2), "7/3");
         Check.due("47: of two", with12().shapley(0), "19/2");
-        Check.throwing("47: bidder 3", INDEX, () -> x.shapley(3));
-        Check.throwing("47: bidder -1", INDEX, () -> x.shapley(-1));
+        Check.throwing("47: bidder 3", Check.INDEX, () -> x.shapley(3));
+        Check.throwing("47: bidder -1", Check.INDEX, () -> x.shapley(-1));
         x.limit(0);
         Check.due("47: open", x.shapley(0), "-");
-        Check.throwing("47: a throw ahead of open", INDEX, () -> x.shapley(3));
+        Check.throwing("47: a throw ahead of open", Check.INDEX, () -> x.shapley(3));
     }
 
     private static Bundlesale with12() {
-        Bundlesale x = with(0, 0);
+        Bundlesale x = Houses.with(0, 0);
         x.bid(0, 1, 12);
         x.bid(1, 1, 5);
         return x;
@@ -133,7 +122,7 @@ public final class MatchedTest {
         x.change(1, 1);
         Check.due("48: the greater part behind the point", x.fee(1, 10), 0);
         Check.due("48: of 10", x.fee(0, 10), 10);
-        Bundlesale y = with(0, 0, 0);
+        Bundlesale y = Houses.with(0, 0, 0);
         Check.due("48: without worth", y.fee(1, 100), 0);
         y.bid(0, 1, 5);
         y.bid(1, 2, 5);
@@ -141,13 +130,13 @@ public final class MatchedTest {
         Check.due("48: alike ones by number, 0", y.fee(0, 5), 2);
         Check.due("48: alike ones by number, 1", y.fee(1, 5), 2);
         Check.due("48: alike ones by number, 2", y.fee(2, 5), 1);
-        Check.throwing("48: bidder 3", INDEX, () -> y.fee(3, -1));
-        Check.throwing("48: bidder -1", INDEX, () -> y.fee(-1, 0));
-        Check.throwing("48: -1", ARGUMENT, () -> y.fee(0, -1));
-        Check.throwing("48: 10000", ARGUMENT, () -> y.fee(0, 10000));
+        Check.throwing("48: bidder 3", Check.INDEX, () -> y.fee(3, -1));
+        Check.throwing("48: bidder -1", Check.INDEX, () -> y.fee(-1, 0));
+        Check.throwing("48: -1", Check.ARGUMENT, () -> y.fee(0, -1));
+        Check.throwing("48: 10000", Check.ARGUMENT, () -> y.fee(0, 10000));
         y.limit(2);
         Check.due("48: open", y.fee(0, 5), -9);
-        Check.throwing("48: a throw ahead of -9", ARGUMENT, () -> y.fee(0, -1));
+        Check.throwing("48: a throw ahead of -9", Check.ARGUMENT, () -> y.fee(0, -1));
     }
 
     public static void main(String[] args) {

@@ -1,18 +1,7 @@
 /** Promises 36 to 39: what is asked of prices. */
 public final class PricesTest {
-    private static final Class<IllegalArgumentException> ARGUMENT = IllegalArgumentException.class;
-    private static final Class<IndexOutOfBoundsException> INDEX = IndexOutOfBoundsException.class;
-
-    private static Bundlesale with(int... forms) {
-        Bundlesale x = new Bundlesale();
-        for (int form : forms) {
-            x.bidder(form);
-        }
-        return x;
-    }
-
     private static void promise36() {
-        Bundlesale x = with(0, 1);
+        Bundlesale x = Houses.with(0, 1);
         Check.due("36: none", x.demand(0), "");
         x.bid(0, 1, 10);
         x.bid(0, 2, 10);
@@ -42,12 +31,12 @@ public final class PricesTest {
         Check.due("36: only what can win", x.demand(1), "3");
         x.limit(0);
         Check.due("36: open or not", x.demand(1), "3");
-        Check.throwing("36: bidder 2", INDEX, () -> x.demand(2));
-        Check.throwing("36: bidder -1", INDEX, () -> x.demand(-1));
+        Check.throwing("36: bidder 2", Check.INDEX, () -> x.demand(2));
+        Check.throwing("36: bidder -1", Check.INDEX, () -> x.demand(-1));
     }
 
     private static void promise37() {
-        Bundlesale x = with(0, 0);
+        Bundlesale x = Houses.with(0, 0);
         Check.due("37: nothing and no prices", x.hold(), true);
         x.price(3, 1);
         Check.due("37: a price without a buyer", x.hold(), false);
@@ -74,9 +63,9 @@ public final class PricesTest {
     }
 
     private static void promise38() {
-        Bundlesale x = with();
+        Bundlesale x = Houses.with();
         Check.due("38: no bidders", x.clock(5, true), "1 0 0 0 0 0 0");
-        Bundlesale y = with(1, 0, 0);
+        Bundlesale y = Houses.with(1, 0, 0);
         y.bid(0, 1, 12);
         y.bid(1, 1, 23);
         y.bid(2, 6, 9);
@@ -86,10 +75,10 @@ public final class PricesTest {
         y.limit(0);
         y.price(0, 99);
         Check.due("38: other prices and open", y.clock(5, true), "4 15 0 0 0 0 0 0 1 6");
-        Check.throwing("38: step 4", ARGUMENT, () -> y.clock(4, false));
-        Check.throwing("38: step 51", ARGUMENT, () -> y.clock(51, true));
+        Check.throwing("38: step 4", Check.ARGUMENT, () -> y.clock(4, false));
+        Check.throwing("38: step 51", Check.ARGUMENT, () -> y.clock(51, true));
         // Bidder 0 goes from one good to two, when that one is dear: with ACTIVITY it can't.
-        Bundlesale z = with(0, 0);
+        Bundlesale z = Houses.with(0, 0);
         z.bid(0, 1, 20);
         z.bid(0, 6, 14);
         z.bid(1, 1, 40);
@@ -98,9 +87,9 @@ public final class PricesTest {
     }
 
     private static void promise39() {
-        Bundlesale x = with();
+        Bundlesale x = Houses.with();
         Check.due("39: no bidders", x.proxy(5), "1");
-        Bundlesale y = with(0, 1);
+        Bundlesale y = Houses.with(0, 1);
         Check.due("39: no bids", y.proxy(5), "1 0 0");
         y.bid(0, 1, 30);
         y.bid(1, 1, 20);
@@ -113,7 +102,7 @@ public final class PricesTest {
         Check.due("39: a step above", y.proxy(7), "5 0 21");
         y.budget(1, 13);
         Check.due("39: a budget", y.proxy(7), "5 14 0");
-        Bundlesale z = with(0, 0);
+        Bundlesale z = Houses.with(0, 0);
         z.bid(0, 1, 20);
         z.bid(0, 2, 20);
         z.bid(1, 3, 30);
@@ -123,8 +112,8 @@ public final class PricesTest {
         Check.due("39: open, and with prices", z.proxy(10), "7 0 30");
         z.out(0, true);
         Check.due("39: only what can win", z.proxy(10), "2 10 0");
-        Check.throwing("39: step 4", ARGUMENT, () -> z.proxy(4));
-        Check.throwing("39: step 51", ARGUMENT, () -> z.proxy(51));
+        Check.throwing("39: step 4", Check.ARGUMENT, () -> z.proxy(4));
+        Check.throwing("39: step 51", Check.ARGUMENT, () -> z.proxy(51));
         z.out(0, false);
         Check.due("39: step 50", z.proxy(50), "1 0 0");
     }

@@ -1,20 +1,8 @@
 /** Promises 27 to 35: what is asked of sales. */
 public final class SalesTest {
-    private static final Class<IllegalArgumentException> ARGUMENT = IllegalArgumentException.class;
-    private static final Class<IndexOutOfBoundsException> INDEX = IndexOutOfBoundsException.class;
-
-    /** A house with BIDDERS of these FORMS. */
-    private static Bundlesale with(int... forms) {
-        Bundlesale x = new Bundlesale();
-        for (int form : forms) {
-            x.bidder(form);
-        }
-        return x;
-    }
-
     /** Two who want a pair together, and one who wants both pairs: RULE 1 is too little for that one. */
     private static Bundlesale pairs() {
-        Bundlesale x = with(0, 1, 0);
+        Bundlesale x = Houses.with(0, 1, 0);
         x.bid(0, 3, 20);
         x.bid(1, 12, 20);
         x.bid(2, 15, 31);
@@ -22,7 +10,7 @@ public final class SalesTest {
     }
 
     private static void promise27() {
-        Bundlesale x = with(1, 1, 0);
+        Bundlesale x = Houses.with(1, 1, 0);
         Check.due("27: none", x.sale(), "");
         x.bid(0, 3, 10);
         x.bid(1, 1, 5);
@@ -45,7 +33,7 @@ public final class SalesTest {
     }
 
     private static void quickOrder() {
-        Bundlesale x = with(1, 0);
+        Bundlesale x = Houses.with(1, 0);
         x.bid(0, 7, 30);
         x.bid(0, 24, 20);
         x.bid(1, 32, 10);
@@ -60,7 +48,7 @@ public final class SalesTest {
     }
 
     private static void promise28() {
-        Bundlesale x = with(1, 0);
+        Bundlesale x = Houses.with(1, 0);
         Check.due("28: none, low", x.bound(false), 0);
         Check.due("28: none, high", x.bound(true), 0);
         x.bid(0, 3, 20);
@@ -85,7 +73,7 @@ public final class SalesTest {
     }
 
     private static void promise29() {
-        Bundlesale x = with(1, 1);
+        Bundlesale x = Houses.with(1, 1);
         Check.due("29: only the empty one", x.count(), 1);
         x.bid(0, 1, 5);
         x.bid(1, 1, 5);
@@ -101,7 +89,7 @@ public final class SalesTest {
     }
 
     private static void promise30() {
-        Bundlesale x = with(0, 1, 0);
+        Bundlesale x = Houses.with(0, 1, 0);
         x.bid(0, 1, 10);
         x.bid(1, 1, 8);
         x.bid(1, 2, 7);
@@ -110,20 +98,20 @@ public final class SalesTest {
         for (int group = 0; group < 8; group++) {
             Check.due("30: worth(" + group + ")", x.worth(group), want[group]);
         }
-        Check.throwing("30: bidder 3", ARGUMENT, () -> x.worth(8));
-        Check.throwing("30: bidders 3 and 0", ARGUMENT, () -> x.worth(9));
-        Check.throwing("30: -1", ARGUMENT, () -> x.worth(-1));
+        Check.throwing("30: bidder 3", Check.ARGUMENT, () -> x.worth(8));
+        Check.throwing("30: bidders 3 and 0", Check.ARGUMENT, () -> x.worth(9));
+        Check.throwing("30: -1", Check.ARGUMENT, () -> x.worth(-1));
         x.limit(3);
         Check.due("30: open", x.worth(7), -9);
-        Check.throwing("30: a throw ahead of -9", ARGUMENT, () -> x.worth(16));
+        Check.throwing("30: a throw ahead of -9", Check.ARGUMENT, () -> x.worth(16));
         x.bidder(0);
-        Check.throwing("30: 16", ARGUMENT, () -> x.worth(16));
+        Check.throwing("30: 16", Check.ARGUMENT, () -> x.worth(16));
         x.limit(16);
         Check.due("30: all", x.worth(15), 17);
     }
 
     private static void promise31() {
-        Bundlesale x = with(1, 0);
+        Bundlesale x = Houses.with(1, 0);
         x.bid(0, 1, 30);
         x.bid(0, 4, 20);
         x.bid(1, 2, 9);
@@ -141,10 +129,10 @@ public final class SalesTest {
         Check.due("31: paid then", x.gets(0, 2), 35);
         Check.due("31: paid by 1", x.gets(1, 2), 9);
         Check.due("31: gets no more", x.gets(0, 0), 0);
-        Check.throwing("31: bidder 2", INDEX, () -> x.gets(2, 3));
-        Check.throwing("31: bidder -1", INDEX, () -> x.gets(-1, 0));
-        Check.throwing("31: what 3", ARGUMENT, () -> x.gets(0, 3));
-        Check.throwing("31: what -1", ARGUMENT, () -> x.gets(0, -1));
+        Check.throwing("31: bidder 2", Check.INDEX, () -> x.gets(2, 3));
+        Check.throwing("31: bidder -1", Check.INDEX, () -> x.gets(-1, 0));
+        Check.throwing("31: what 3", Check.ARGUMENT, () -> x.gets(0, 3));
+        Check.throwing("31: what -1", Check.ARGUMENT, () -> x.gets(0, -1));
     }
 
     private static void promise32() {
@@ -163,18 +151,18 @@ public final class SalesTest {
         Check.due("32: RULE 1 with a budget", x.pays(1, 1), 19);
         Check.due("32: the other one too", x.pays(0, 2), 12);
         Check.due("32: a coin more", x.pays(1, 2), 20);
-        Check.throwing("32: bidder 3", INDEX, () -> x.pays(3, 3));
-        Check.throwing("32: bidder -1", INDEX, () -> x.pays(-1, 0));
-        Check.throwing("32: rule 3", ARGUMENT, () -> x.pays(0, 3));
-        Check.throwing("32: rule -1", ARGUMENT, () -> x.pays(0, -1));
+        Check.throwing("32: bidder 3", Check.INDEX, () -> x.pays(3, 3));
+        Check.throwing("32: bidder -1", Check.INDEX, () -> x.pays(-1, 0));
+        Check.throwing("32: rule 3", Check.ARGUMENT, () -> x.pays(0, 3));
+        Check.throwing("32: rule -1", Check.ARGUMENT, () -> x.pays(0, -1));
         x.limit(2);
         Check.due("32: open", x.pays(0, 2), -9);
-        Check.throwing("32: a throw ahead of -9", ARGUMENT, () -> x.pays(0, 3));
+        Check.throwing("32: a throw ahead of -9", Check.ARGUMENT, () -> x.pays(0, 3));
     }
 
     /** Three of whom each two are asked for one coin together: two coins are needed, where halves would do with less. */
     private static void wholeCoins() {
-        Bundlesale x = with(0, 0, 0, 1);
+        Bundlesale x = Houses.with(0, 0, 0, 1);
         x.bid(0, 1, 10);
         x.bid(1, 2, 10);
         x.bid(2, 4, 10);
@@ -190,7 +178,7 @@ public final class SalesTest {
     }
 
     private static void promise33() {
-        Bundlesale x = with();
+        Bundlesale x = Houses.with();
         Check.due("33: none", x.cuts(), "");
         Bundlesale y = pairs();
         Check.due("33: the third one", y.cuts(), "4");
@@ -200,7 +188,7 @@ public final class SalesTest {
         Check.due("33: nobody is in the way", y.cuts(), "");
         y.limit(1);
         Check.due("33: open", y.cuts(), "-");
-        Bundlesale z = with(1, 1, 1, 0);
+        Bundlesale z = Houses.with(1, 1, 1, 0);
         z.bid(0, 1, 20);
         z.bid(1, 2, 20);
         z.bid(2, 4, 20);
@@ -210,7 +198,7 @@ public final class SalesTest {
     }
 
     private static void promise34() {
-        Bundlesale x = with(0, 1);
+        Bundlesale x = Houses.with(0, 1);
         x.bid(0, 1, 30);
         x.bid(1, 1, 20);
         x.bid(1, 2, 10);
@@ -224,20 +212,20 @@ public final class SalesTest {
         x.budget(1, 15);
         Check.due("34: at most its budget", x.gain(1, 99, 0), 0);
         Check.due("34: another one of it", x.gain(2, 99, 0), -5);
-        Check.throwing("34: bid 3", INDEX, () -> x.gain(3, 0, 0));
-        Check.throwing("34: bid -1", INDEX, () -> x.gain(-1, 1, 0));
-        Check.throwing("34: value 0", ARGUMENT, () -> x.gain(0, 0, 0));
-        Check.throwing("34: value 100", ARGUMENT, () -> x.gain(0, 100, 0));
-        Check.throwing("34: rule 2", ARGUMENT, () -> x.gain(0, 5, 2));
-        Check.throwing("34: rule -1", ARGUMENT, () -> x.gain(0, 5, -1));
+        Check.throwing("34: bid 3", Check.INDEX, () -> x.gain(3, 0, 0));
+        Check.throwing("34: bid -1", Check.INDEX, () -> x.gain(-1, 1, 0));
+        Check.throwing("34: value 0", Check.ARGUMENT, () -> x.gain(0, 0, 0));
+        Check.throwing("34: value 100", Check.ARGUMENT, () -> x.gain(0, 100, 0));
+        Check.throwing("34: rule 2", Check.ARGUMENT, () -> x.gain(0, 5, 2));
+        Check.throwing("34: rule -1", Check.ARGUMENT, () -> x.gain(0, 5, -1));
         x.limit(0);
         Check.due("34: open", x.gain(0, 5, 0), -9999);
-        Check.throwing("34: a throw ahead of open", ARGUMENT, () -> x.gain(0, 5, 2));
+        Check.throwing("34: a throw ahead of open", Check.ARGUMENT, () -> x.gain(0, 5, 2));
         Check.due("34: the bids stay", x.list(), "0:0=30;1:0=20;1:1=10");
     }
 
     private static void promise35() {
-        Bundlesale x = with(0, 1);
+        Bundlesale x = Houses.with(0, 1);
         x.bid(0, 1, 30);
         x.bid(1, 1, 20);
         x.bid(1, 2, 10);
@@ -247,10 +235,10 @@ public final class SalesTest {
         Check.due("35: none for who loses", x.lie(1, 0), -1);
         x.change(2, 1);
         Check.due("35: no less can be told", x.lie(2, 0), -1);
-        Check.throwing("35: bid 3", INDEX, () -> x.lie(3, 2));
-        Check.throwing("35: bid -1", INDEX, () -> x.lie(-1, 0));
-        Check.throwing("35: rule 2", ARGUMENT, () -> x.lie(0, 2));
-        Check.throwing("35: rule -1", ARGUMENT, () -> x.lie(0, -1));
+        Check.throwing("35: bid 3", Check.INDEX, () -> x.lie(3, 2));
+        Check.throwing("35: bid -1", Check.INDEX, () -> x.lie(-1, 0));
+        Check.throwing("35: rule 2", Check.ARGUMENT, () -> x.lie(0, 2));
+        Check.throwing("35: rule -1", Check.ARGUMENT, () -> x.lie(0, -1));
         x.limit(2);
         Check.due("35: open", x.lie(0, 0), -1);
     }

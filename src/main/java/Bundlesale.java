@@ -1004,7 +1004,7 @@ public final class Bundlesale {
         final int[] cap = new int[BIDDERS];
         int canWin = 0;
 
-        private int[] value = NO_PRICES;
+        private int[] value = new int[BIDS];
         private int mostGoods = GOODS;
         private final int[] cost = new int[BIDS];
         private final int[] number = new int[BIDS];
