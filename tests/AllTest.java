@@ -1,3 +1,5 @@
+import java.lang.reflect.Field;
+
 /** Promises 49 to 51: house, isSound, digest; and that 512 calls of the dearest kind fit in their room. */
 public final class AllTest {
     private static Bundlesale full(int first) {
@@ -66,6 +68,47 @@ public final class AllTest {
             x.sell(2);
             Check.due("50: sold", x.isSound(), true);
         }
+    }
+
+    /** What isSound() tells, when a thing that was found out is not so. */
+    private static boolean soundWith(String name, int place, int number) {
+        Bundlesale x = full(0);
+        x.pays(0, 2);
+        try {
+            Object outcome = hidden(x, "outcome");
+            if (place < 0) {
+                Field field = outcome.getClass().getDeclaredField(name);
+                field.setAccessible(true);
+                field.setInt(outcome, number);
+            } else {
+                ((int[]) hidden(outcome, name))[place] = number;
+            }
+        } catch (ReflectiveOperationException wrong) {
+            throw new IllegalStateException(wrong);
+        }
+        return x.isSound();
+    }
+
+    private static Object hidden(Object of, String name) throws ReflectiveOperationException {
+        Field field = of.getClass().getDeclaredField(name);
+        field.setAccessible(true);
+        return field.get(of);
+    }
+
+    private static void soundness() {
+        int worth = full(0).bound(false);
+        int ties = full(0).count();
+        Check.due("50: as it is", soundWith("ties", -1, ties), true);
+        Check.due("50: the told one is no SALE", soundWith("told", -1, 65), false);
+        Check.due("50: a BETTER one", soundWith("told", -1, 0), false);
+        Check.due("50: another count", soundWith("ties", -1, ties + 1), false);
+        Check.due("50: a payment below RULE 1", soundWith("ruleTwo", 0, -1), false);
+        Check.due("50: a payment above RULE 0", soundWith("ruleTwo", 0, worth), false);
+        Check.due("50: a GROUP in the way", soundWith("has", 1, 0), false);
+        Check.due("50: LOW above HIGH", soundWith("high", -1, worth - 1), false);
+        Check.due("50: a GROUP of less worth", soundWith("worthOfGroup", 15, worth - 1), false);
+        Check.due("50: a GROUP of more worth", soundWith("worthOfGroup", 0, 999), false);
+        Check.due("50: a LIE brings GAIN", soundWith("ruleOne", 0, 99), false);
     }
 
     private static long add(long d, long v) {
@@ -142,6 +185,7 @@ public final class AllTest {
     public static void main(String[] args) {
         promise49();
         promise50();
+        soundness();
         promise51();
         room();
         Check.end("AllTest");

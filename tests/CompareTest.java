@@ -223,11 +223,56 @@ public final class CompareTest {
         }
     }
 
+    /** A house in which GROUPS are often in the way: some who want one GOOD each, and rivals who want several. */
+    private void oneOfPayments(int number) {
+        run = number;
+        seed = number * 104729L + 5;
+        for (int k = 0; k < 5; k++) pick(2);
+        int bidders = pick(3, 4);
+        int singles = pick(2, bidders - 1);
+        int greatest = bidders == 4 && singles == 3 ? 11 : 25;
+        for (int k = 0; k < bidders; k++) {
+            int f = pick(2);
+            both("bidder(" + f + ")", () -> x.bidder(f), () -> y.bidder(f));
+        }
+        int[] order = {0, 1, 2, 3};
+        for (int k = 3; k > 0; k--) {
+            int other = pick(k + 1);
+            int kept = order[k];
+            order[k] = order[other];
+            order[other] = kept;
+        }
+        int at = 0;
+        for (int b : order) {
+            if (b >= bidders) continue;
+            if (at < singles) {
+                aBidOf(b, 1 << at, pick(1, greatest));
+                if (pick(4) == 0) aBidOf(b, 1 << pick(6), pick(1, greatest));
+            } else {
+                for (int k = pick(1, 4); k > 0; k--) aBidOf(b, pick(1, (2 << singles) - 1), pick(1, greatest * 2));
+            }
+            at++;
+        }
+        both("cuts()", () -> x.cuts(), () -> y.cuts());
+        for (int b = 0; b < bidders; b++) {
+            int who = b;
+            both("pays(" + b + ",1)", () -> x.pays(who, 1), () -> y.pays(who, 1));
+            both("pays(" + b + ",2)", () -> x.pays(who, 2), () -> y.pays(who, 2));
+        }
+    }
+
+    private void aBidOf(int b, int g, int v) {
+        both("bid(" + b + "," + g + "," + v + ")", () -> x.bid(b, g, v), () -> y.bid(b, g, v));
+    }
+
     public static void main(String[] args) {
         int runs = args.length > 0 ? Integer.parseInt(args[0]) : 120;
         int first = args.length > 1 ? Integer.parseInt(args[1]) : 0;
         for (int number = first; number < first + runs && Check.isAllDue(); number++) {
             new CompareTest().oneRun(number, 440);
+        }
+        for (int number = first; number < first + runs * 10 && Check.isAllDue(); number++) {
+            new CompareTest().oneOfPayments(number);
         }
         Check.end("CompareTest");
     }

@@ -177,6 +177,26 @@ public final class SalesTest {
         Check.due("32: cuts", x.cuts(), "9 12 10");
     }
 
+    private static void boundByRuleZero() {
+        Bundlesale x = Houses.with(0, 0, 0, 0);
+        x.bid(0, 1, 12);
+        x.bid(1, 2, 20);
+        x.bid(2, 4, 20);
+        x.bid(3, 1, 10);
+        x.bid(3, 7, 40);
+        int[][] want = {{12, 10, 12}, {20, 8, 14}, {20, 8, 14}, {0, 0, 0}};
+        for (int bidder = 0; bidder < 4; bidder++) {
+            for (int rule = 0; rule <= 2; rule++) {
+                Check.due("32: bound, pays(" + bidder + "," + rule + ")", x.pays(bidder, rule), want[bidder][rule]);
+            }
+        }
+        x.change(4, 41);
+        Check.due("32: an odd coin, bidder 0", x.pays(0, 2), 12);
+        Check.due("32: an odd coin, bidder 1", x.pays(1, 2), 14);
+        Check.due("32: an odd coin, bidder 2", x.pays(2, 2), 15);
+        Check.due("33: the fourth one", x.cuts(), "8");
+    }
+
     private static void promise33() {
         Bundlesale x = Houses.with();
         Check.due("33: none", x.cuts(), "");
@@ -252,6 +272,7 @@ public final class SalesTest {
         promise31();
         promise32();
         wholeCoins();
+        boundByRuleZero();
         promise33();
         promise34();
         promise35();
