@@ -229,8 +229,8 @@ public final class CompareTest {
         seed = number * 104729L + 5;
         for (int k = 0; k < 5; k++) pick(2);
         int bidders = pick(3, 4);
-        int singles = pick(2, bidders - 1);
-        int greatest = bidders == 4 && singles == 3 ? 11 : 25;
+        int singles = pick(2, bidders);
+        int greatest = singles == 4 ? 9 : bidders == 4 && singles == 3 ? 11 : 25;
         for (int k = 0; k < bidders; k++) {
             int f = pick(2);
             both("bidder(" + f + ")", () -> x.bidder(f), () -> y.bidder(f));
@@ -248,6 +248,7 @@ public final class CompareTest {
             if (at < singles) {
                 aBidOf(b, 1 << at, pick(1, greatest));
                 if (pick(4) == 0) aBidOf(b, 1 << pick(6), pick(1, greatest));
+                if (singles == bidders) aBidOf(b, 1 << pick(singles) | 1 << pick(singles), pick(1, greatest * 2));
             } else {
                 for (int k = pick(1, 4); k > 0; k--) aBidOf(b, pick(1, (2 << singles) - 1), pick(1, greatest * 2));
             }

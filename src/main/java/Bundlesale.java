@@ -1399,9 +1399,6 @@ public final class Bundlesale {
         }
 
         boolean areSharesWhole() {
-            if (book.bidders == 0) {
-                return true;
-            }
             int sum = 0;
             for (int bidder = 0; bidder < book.bidders; bidder++) {
                 sum += sumOverOrders(bidder);
