@@ -31,6 +31,8 @@ public final class Bundlesale {
     private static final int NO_BUDGET = 9999;
     /** Far above what a CLOCK or a PROXY of the least step can need. */
     private static final int ROUNDS = 10000;
+    /** One to six GOODS share these without a rest. */
+    private static final int SHARES = 60;
     /** Above every sum of payments and every sum of their squares. */
     private static final int FAR = 1000000000;
 
@@ -1011,6 +1013,8 @@ public final class Bundlesale {
         private int numbers = 0;
         /** What the BIDS from a place on can bring at most. */
         private final int[] rest = new int[BIDS + 1];
+        /** What each GOOD can bring at most with the BIDS from a place on, a BID shared out evenly over its GOODS. */
+        private final int[][] perGood = new int[BIDS + 1][GOODS];
 
         private final int[] sum = new int[BIDDERS];
         private int goods = 0;
@@ -1058,11 +1062,7 @@ public final class Bundlesale {
                     numbers++;
                 }
             }
-            rest[numbers] = 0;
-            for (int place = numbers - 1; place >= 0; place--) {
-                int bid = number[place];
-                rest[place] = rest[place + 1] + Math.max(0, value[bid] - cost[bid]);
-            }
+            measureRests();
             for (int bidder = 0; bidder < BIDDERS; bidder++) {
                 sum[bidder] = 0;
             }
@@ -1073,6 +1073,23 @@ public final class Bundlesale {
             walk(this, 0, 0);
         }
 
+        private void measureRests() {
+            rest[numbers] = 0;
+            for (int good = 0; good < GOODS; good++) {
+                perGood[numbers][good] = 0;
+            }
+            for (int place = numbers - 1; place >= 0; place--) {
+                int bid = number[place];
+                int most = Math.max(0, value[bid] - cost[bid]);
+                int share = SHARES * most / Math.max(1, Integer.bitCount(whole[bid]));
+                rest[place] = rest[place + 1] + most;
+                for (int good = 0; good < GOODS; good++) {
+                    int behind = perGood[place + 1][good];
+                    perGood[place][good] = (whole[bid] >> good & 1) == 1 ? Math.max(behind, share) : behind;
+                }
+            }
+        }
+
         /** Goes from a SALE to all that hold it and more BIDS behind: alike ones are met by BETTER, best first. */
         private static void walk(Search s, int from, int size) {
             // Each BID takes a GOOD of its own, so no SALE has more BIDS than there are GOODS.
@@ -1080,7 +1097,7 @@ public final class Bundlesale {
                 return;
             }
             s.weigh(size);
-            for (int place = from; place < s.numbers && s.worthNow + s.rest[place] >= s.bestWorth; place++) {
+            for (int place = from; place < s.numbers && s.canMatchBest(place); place++) {
                 int bid = s.number[place];
                 if (s.hasRoomFor(bid)) {
                     int before = s.worthNow;
@@ -1090,6 +1107,21 @@ public final class Bundlesale {
                     s.worthNow = before;
                 }
             }
+        }
+
+        /** Whether the BIDS from a place on could bring as much as the best so far has: if not, they are left aside. */
+        private boolean canMatchBest(int place) {
+            int lacking = bestWorth - worthNow;
+            if (rest[place] < lacking) {
+                return false;
+            }
+            int shares = 0;
+            for (int good = 0; good < GOODS; good++) {
+                if ((goods >> good & 1) == 0) {
+                    shares += perGood[place][good];
+                }
+            }
+            return shares >= SHARES * lacking;
         }
 
         private void weigh(int size) {
