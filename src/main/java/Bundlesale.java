@@ -788,7 +788,7 @@ public final class Bundlesale {
 
     private boolean isBestOfAll() {
         Audit audit = new Audit(search, outcome.told);
-        Audit.look(audit, 0, 0, 0);
+        Audit.look(audit, 0, 0, 0, 0);
         return !audit.hasBetter && audit.same == outcome.ties;
     }
 
@@ -1180,24 +1180,27 @@ public final class Bundlesale {
             return Math.min(has, cap[bidder]);
         }
 
-        boolean canJoin(int bids, int bid) {
+        /** Whether a BID makes a SALE together with these that are one and have these goods. */
+        boolean canJoin(int bid, int bids, int goodsOfBids) {
             int bidder = book.who[bid];
             return (canWin >> bid & 1) == 1
-                && (goodsOf(bids) & whole[bid]) == 0
+                && (goodsOfBids & whole[bid]) == 0
                 && (book.form[bidder] == 1 || (bids & own[bidder]) == 0);
         }
 
         boolean isSale(int bids) {
-            int before = 0;
+            int ahead = 0;
+            int goodsAhead = 0;
             for (int bid = 0; bid < book.bids; bid++) {
                 if ((bids >> bid & 1) == 1) {
-                    if (!canJoin(before, bid)) {
+                    if (!canJoin(bid, ahead, goodsAhead)) {
                         return false;
                     }
-                    before |= 1 << bid;
+                    ahead |= 1 << bid;
+                    goodsAhead |= whole[bid];
                 }
             }
-            return before == bids;
+            return ahead == bids;
         }
 
         int offerFor(int bidder, int good) {
@@ -1275,11 +1278,13 @@ public final class Bundlesale {
 
         private int quickSale() {
             int taken = 0;
+            int goods = 0;
             int waiting = search.canWin;
             for (int round = 0; round < BIDS && waiting != 0; round++) {
                 int bid = densest(waiting);
-                if (search.canJoin(taken, bid)) {
+                if (search.canJoin(bid, taken, goods)) {
                     taken |= 1 << bid;
+                    goods |= search.whole[bid];
                 }
                 waiting &= ~(1 << bid);
             }
@@ -1589,14 +1594,14 @@ public final class Bundlesale {
             this.toldWorth = worthOf(search, told);
         }
 
-        private static void look(Audit audit, int from, int set, int size) {
+        private static void look(Audit audit, int from, int set, int goods, int size) {
             if (size > GOODS) {
                 return;
             }
             audit.compare(set);
             for (int bid = from; bid < audit.search.book.bids; bid++) {
-                if (audit.search.canJoin(set, bid)) {
-                    look(audit, bid + 1, set | 1 << bid, size + 1);
+                if (audit.search.canJoin(bid, set, goods)) {
+                    look(audit, bid + 1, set | 1 << bid, goods | audit.search.whole[bid], size + 1);
                 }
             }
         }
