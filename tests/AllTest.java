@@ -1,26 +1,5 @@
-import java.lang.reflect.Field;
-
 /** Promises 49 to 51: house, isSound, digest; and that 512 calls of the dearest kind fit in their room. */
 public final class AllTest {
-    private static Bundlesale full(int first) {
-        Bundlesale x = new Bundlesale();
-        for (int k = 0; k < 4; k++) {
-            x.bidder((k + first) & 1);
-        }
-        int[] bundles = {1, 2, 4, 8, 16, 32, 3, 12, 48, 5, 10, 36, 24, 6, 33, 63};
-        for (int k = 0; k < 16; k++) {
-            x.bid(k % 4, bundles[k], 20 + Integer.bitCount(bundles[k]) * 10 + k % 5);
-        }
-        for (int k = 0; k < 8; k++) {
-            x.offer(true, 999 - 50 * k);
-            x.offer(false, 100 + 60 * k);
-        }
-        for (int k = 0; k < 4; k++) {
-            x.worths(k, 99 - k, 90 - k, 80 - k);
-        }
-        return x;
-    }
-
     private static void promise49() {
         Bundlesale x = new Bundlesale();
         x.bidder(1);
@@ -54,7 +33,7 @@ public final class AllTest {
     private static void promise50() {
         Check.due("50: a new one", new Bundlesale().isSound(), true);
         for (int first = 0; first <= 1; first++) {
-            Bundlesale x = full(first);
+            Bundlesale x = Houses.crowded(first);
             Check.due("50: full", x.isSound(), true);
             x.limit(3);
             Check.due("50: open", x.isSound(), true);
@@ -72,32 +51,20 @@ public final class AllTest {
 
     /** What isSound() tells, when a thing that was found out is not so. */
     private static boolean soundWith(String name, int place, int number) {
-        Bundlesale x = full(0);
+        Bundlesale x = Houses.crowded(0);
         x.pays(0, 2);
-        try {
-            Object outcome = hidden(x, "outcome");
-            if (place < 0) {
-                Field field = outcome.getClass().getDeclaredField(name);
-                field.setAccessible(true);
-                field.setInt(outcome, number);
-            } else {
-                ((int[]) hidden(outcome, name))[place] = number;
-            }
-        } catch (ReflectiveOperationException wrong) {
-            throw new IllegalStateException(wrong);
+        Object outcome = Hidden.of(x, "outcome");
+        if (place < 0) {
+            Hidden.set(outcome, name, number);
+        } else {
+            ((int[]) Hidden.of(outcome, name))[place] = number;
         }
         return x.isSound();
     }
 
-    private static Object hidden(Object of, String name) throws ReflectiveOperationException {
-        Field field = of.getClass().getDeclaredField(name);
-        field.setAccessible(true);
-        return field.get(of);
-    }
-
     private static void soundness() {
-        int worth = full(0).bound(false);
-        int ties = full(0).count();
+        int worth = Houses.crowded(0).bound(false);
+        int ties = Houses.crowded(0).count();
         Check.due("50: as it is", soundWith("ties", -1, ties), true);
         Check.due("50: the told one is no SALE", soundWith("told", -1, 65), false);
         Check.due("50: a BETTER one", soundWith("told", -1, 0), false);
@@ -152,7 +119,7 @@ public final class AllTest {
         Bundlesale empty = new Bundlesale();
         Check.due("51: a new one", empty.digest(), digestOf(empty));
         for (int first = 0; first <= 1; first++) {
-            Bundlesale x = full(first);
+            Bundlesale x = Houses.crowded(first);
             Check.due("51: full", x.digest(), digestOf(x));
             x.price(0, 30);
             x.say(0, 10, 1, 11, 5, 12);
@@ -172,9 +139,9 @@ public final class AllTest {
     private static void room() {
         com.sun.management.ThreadMXBean meter =
             (com.sun.management.ThreadMXBean) java.lang.management.ManagementFactory.getThreadMXBean();
-        full(0).digest();
+        Houses.crowded(0).digest();
         long before = meter.getCurrentThreadAllocatedBytes();
-        Bundlesale x = full(0);
+        Bundlesale x = Houses.crowded(0);
         for (int k = 0; k < 450; k++) {
             x.digest();
         }

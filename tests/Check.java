@@ -6,6 +6,11 @@ final class Check {
         Object answer();
     }
 
+    /** A call that is asked with one number after the other. */
+    interface Numbered {
+        Object answer(int number);
+    }
+
     static final Class<IllegalArgumentException> ARGUMENT = IllegalArgumentException.class;
     static final Class<IllegalStateException> STATE = IllegalStateException.class;
     static final Class<IndexOutOfBoundsException> INDEX = IndexOutOfBoundsException.class;
@@ -28,6 +33,28 @@ final class Check {
 
     static void throwing(String what, Class<? extends RuntimeException> kind, Call call) {
         due(what, answer(call), "throws " + kind.getSimpleName());
+    }
+
+    /** A call that is refused throws, and changes nothing. */
+    static void refused(String what, Bundlesale x, Class<? extends RuntimeException> kind, Call call) {
+        String before = Snapshot.of(x);
+        throwing(what, kind, call);
+        due(what + ": nothing is changed", Snapshot.of(x), before);
+    }
+
+    /** The first number that is refused on each side, and the ones farthest out. */
+    static void beyond(String what, Bundlesale x, int least, int most, Class<? extends RuntimeException> kind,
+            Numbered call) {
+        for (int number : new int[] {least - 1, most + 1, Integer.MIN_VALUE, Integer.MAX_VALUE}) {
+            refused(what + " " + number, x, kind, () -> call.answer(number));
+        }
+    }
+
+    /** A call that is let but can't be done, or only asks, tells this and changes nothing. */
+    static void changingNothing(String what, Bundlesale x, Object told, Call call) {
+        String before = Snapshot.of(x);
+        due(what, answer(call), told);
+        due(what + ": nothing is changed", Snapshot.of(x), before);
     }
 
     /** The answer of a call, or the name of what it throws. */
