@@ -1,3 +1,5 @@
+import java.util.regex.Pattern;
+
 /** Promises 20 to 26 at their edges. */
 public final class AskedEdgesTest {
     private static void promise20() {
@@ -153,6 +155,36 @@ public final class AskedEdgesTest {
         wrong(x, ";".repeat(59) + "1", 0);
     }
 
+    /** Each text of up to 7 of these signs is RIGHT just as this pattern tells. */
+    private static void shortPieces() {
+        Pattern right = Pattern.compile("[01]:(0|1|01)=(0?[1-9]|[1-9][0-9])");
+        for (int many = 1; many <= 7; many++) {
+            int texts = (int) Math.pow(5, many);
+            for (int number = 0; number < texts; number++) {
+                int[] code = {-1, -1, -1, -1, -1, -1, -1};
+                int left = number;
+                for (int k = 0; k < many; k++) {
+                    code[k] = new int[] {0, 1, 6, 10, 11}[left % 5];
+                    left /= 5;
+                }
+                Bundlesale x = Houses.with(0, 1);
+                x.say(code[0], code[1], code[2], code[3], code[4], code[5]);
+                x.say(code[6], -1, -1, -1, -1, -1);
+                String text = x.typed();
+                Check.due("23: " + text, x.fault(), right.matcher(text).matches() ? -1 : 0);
+            }
+        }
+    }
+
+    /** The last PIECE ends with the 60th sign, wherever it breaks off. */
+    private static void brokenOffAtTheEnd() {
+        Bundlesale x = Houses.with(0);
+        String piece = "0:012345=99";
+        for (int many = 1; many <= piece.length(); many++) {
+            wrong(x, ";".repeat(60 - many) + piece.substring(0, many), many >= 10 ? -1 : 0);
+        }
+    }
+
     private static void repeatedPieces() {
         Bundlesale x = Houses.with(0, 1);
         wrong(x, "0:0=1;0:0=1", 1);
@@ -268,6 +300,8 @@ public final class AskedEdgesTest {
         promise22();
         biddersOfPieces();
         signsOfPieces();
+        shortPieces();
+        brokenOffAtTheEnd();
         repeatedPieces();
         seventeenthBid();
         frozenOrNot();

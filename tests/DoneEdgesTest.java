@@ -535,6 +535,31 @@ public final class DoneEdgesTest {
         Check.due("18: full, as it was", Snapshot.stateOf(x), before);
     }
 
+    /** A BIDDER whose coming is undone is in nothing that is asked then, though it was in all of it before. */
+    private static void undoOfABidder() {
+        for (int form = 0; form <= 1; form++) {
+            Bundlesale alone = Houses.with(form);
+            alone.bid(0, 1, 10);
+            Bundlesale x = Houses.with(form);
+            x.bid(0, 1, 10);
+            x.bidder(1);
+            x.bid(1, 2, 70);
+            x.bid(1, 5, 25);
+            x.worths(1, 9, 8, 7);
+            Snapshot.of(x);
+            for (int k = 0; k < 4; k++) {
+                x.undo();
+            }
+            Check.due("18: as if it had not come", Snapshot.of(x), Snapshot.of(alone));
+            x.bidder(1);
+            alone.bidder(1);
+            Check.due("18: it comes again, without anything", Snapshot.of(x), Snapshot.of(alone));
+            x.undo();
+            Check.due("16: just the other one pays", x.sell(0), 10);
+            Check.due("49: and nobody else", x.house(8), 10);
+        }
+    }
+
     /** What the last of each kind is, is brought back too: the last BIDDER, BID, GOOD, WORTH, sign. */
     private static void undoOfTheLast() {
         Bundlesale x = Houses.with(1, 1, 1, 1);
@@ -629,6 +654,7 @@ public final class DoneEdgesTest {
         promise18();
         firstOfManyCalls();
         undoInFullHouse();
+        undoOfABidder();
         undoOfTheLast();
         promise19();
         everythingFull();

@@ -48,6 +48,23 @@ final class Houses {
         return x;
     }
 
+    /** A house with BIDDERS of these FORMS, a digit each, and the BIDS of this list. */
+    static Bundlesale read(String forms, String list) {
+        Bundlesale x = new Bundlesale();
+        for (char form : forms.toCharArray()) {
+            x.bidder(form - '0');
+        }
+        for (String piece : list.split(";")) {
+            int to = piece.indexOf('=');
+            int bundle = 0;
+            for (char good : piece.substring(2, to).toCharArray()) {
+                bundle |= 1 << good - '0';
+            }
+            x.bid(piece.charAt(0) - '0', bundle, Integer.parseInt(piece.substring(to + 1)));
+        }
+        return x;
+    }
+
     /** Makes TYPED just this text. */
     static void type(Bundlesale x, String text) {
         x.say(14, -1, -1, -1, -1, -1);

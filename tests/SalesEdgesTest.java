@@ -109,6 +109,24 @@ public final class SalesEdgesTest {
         Check.due("28: LOW then", x.bound(false), 17);
     }
 
+    /** 15 BIDS on GOODS 0 to 4, and the one that comes last in the order on a GOOD of its own. */
+    private static void quickLooksAtAll() {
+        Bundlesale x = Houses.with(1, 1, 1, 1);
+        for (int good = 0; good < 5; good++) {
+            for (int bidder = 0; bidder < 3; bidder++) {
+                x.bid(bidder, 1 << good, 50 + bidder);
+            }
+        }
+        x.bid(3, 32, 1);
+        x.limit(15);
+        Check.due("27: QUICK, the 16th of 16 in the order, too", x.sale(), "2 5 8 11 14 15");
+        Check.due("28: LOW counts it", x.bound(false), 261);
+        x.withdraw(15);
+        Check.due("27: 15 are not more than 15", x.sale(), "2 5 8 11 14");
+        x.limit(14);
+        Check.due("27: QUICK without it", x.sale(), "2 5 8 11 14");
+    }
+
     private static void promise28() {
         Bundlesale x = Houses.with(0, 1);
         Check.changingNothing("28: LOW without BIDS", x, 0, () -> x.bound(false));
@@ -323,6 +341,46 @@ public final class SalesEdgesTest {
         payments("20 more of 10 each: 6, 7 and 7", y, "20 20 10 0", "10 10 0 0", "16 17 7 0", "8");
     }
 
+    /** Each BIDDER wins a GOOD of its own; only GROUPS of these BIDDERS are in the way of one another. */
+    private static void winnersInTheWay() {
+        Bundlesale x = Houses.with(0, 0, 1, 1);
+        x.bid(0, 1, 10);
+        x.bid(1, 2, 10);
+        x.bid(2, 4, 20);
+        x.bid(3, 8, 20);
+        x.bid(2, 3, 8);
+        x.bid(3, 3, 8);
+        payments("0 and 1 pay 8 together, as much as one can for 2 and one for 3", x,
+            "10 10 20 20", "0 0 0 0", "4 4 0 0", "4 8");
+        payments("a GROUP in the way of what keeps two others out of it",
+            Houses.read("1111", "0:0=1;1:1=2;2:2=2;3:3=2;2:13=2;3:12=2"), "1 2 2 2", "0 0 0 0", "0 2 0 0", "4 8 5");
+        payments("2 can pay no more than 2, so that 1 pays too",
+            Houses.read("1001", "0:0=1;1:1=2;2:2=2;3:3=2;3:012=3;0:23=2"), "1 2 2 2", "0 0 0 0", "0 1 2 0", "8 3");
+        payments("1, 2 and 3 can pay no more than 2 each",
+            Houses.read("1111", "0:0=2;1:1=2;2:2=2;3:3=2;1:023=5;2:013=5;0:123=5"),
+            "2 2 2 2", "1 1 1 1", "1 2 2 2", "1 4 2");
+        payments("all that 1, 2 and 3 can pay",
+            Houses.read("0110", "0:0=2;1:1=2;2:2=2;3:3=5;0:123=10;1:023=7;2:013=7"),
+            "2 2 2 5", "0 1 1 4", "0 2 2 5", "1 4 2");
+        payments("just one coin more for 0 and for 2",
+            Houses.read("0111", "0:0=1;1:1=1;2:2=2;3:3=2;1:023=3;3:012=3"), "1 1 2 2", "0 0 1 0", "1 0 2 0", "2 8");
+        payments("of alike ones the least of BIDDER 1", Houses.read("1111", "0:0=2;1:1=1;2:2=1;3:3=1;3:012=2;1:03=1"),
+            "2 1 1 1", "0 0 0 0", "1 0 1 0", "8 6");
+        payments("the least sum ahead of the squares",
+            Houses.read("1011", "0:0=2;1:1=4;2:2=2;3:3=2;3:012=5;2:013=4;0:123=5"),
+            "2 4 2 2", "0 1 0 0", "0 4 1 0", "1 8 4");
+    }
+
+    /** Three small ones have together what one who wants all would pay. */
+    private static void threeAgainstOne() {
+        payments("21 of 11, 11 and 10", Houses.read("1011", "1:1=11;2:2=10;0:0=11;3:012=21"),
+            "11 11 10 0", "0 0 0 0", "7 7 7 0", "8");
+        payments("21, the BIDS in another order", Houses.read("0101", "0:0=11;2:2=10;1:1=11;3:012=21"),
+            "11 11 10 0", "0 0 0 0", "7 7 7 0", "8");
+        payments("2 of 2, 1 and 1: the least of BIDDER 0", Houses.read("1101", "0:0=2;1:1=1;2:2=1;3:012=2"),
+            "2 1 1 0", "0 0 0 0", "0 1 1 0", "8");
+    }
+
     /** The GROUPS 3, 4 and 9 have the same LACK: 3 is the smallest set, though 4 has fewer BIDDERS. */
     private static void alikeLacks() {
         Bundlesale x = Houses.with(0, 0, 0, 0);
@@ -417,12 +475,41 @@ public final class SalesEdgesTest {
         Check.due("35: 98 is 1 more", y.lie(1, 0), 98);
     }
 
+    /**
+     * BIDDER 0 has a BUDGET of 45 and tells v for GOOD 0, beside 20 for GOOD 1; BIDDER 1 tells 14 and 10. From v = 15 on
+     * BIDDER 0 wins both GOODS and pays v + 20, at most 45; from v = 35 on GOOD 0 alone, and pays v. Its GAIN is 10 with
+     * 15, less and less up to 25, and 10 again with 35.
+     */
+    private static void alikeGains() {
+        Bundlesale x = Houses.with(1, 1);
+        x.budget(0, 45);
+        x.bid(1, 2, 10);
+        x.bid(1, 1, 14);
+        x.bid(0, 1, 50);
+        x.bid(0, 2, 20);
+        Check.due("35: GAIN with 14", x.gain(2, 14, 0), 0);
+        Check.due("35: GAIN with 15", x.gain(2, 15, 0), 10);
+        Check.due("35: GAIN with 16", x.gain(2, 16, 0), 9);
+        Check.due("35: GAIN with 34", x.gain(2, 34, 0), 0);
+        Check.due("35: GAIN with 35", x.gain(2, 35, 0), 10);
+        Check.due("35: GAIN with 36", x.gain(2, 36, 0), 9);
+        Check.due("35: of 15 and 35 with the same GAIN the smaller VALUE", x.lie(2, 0), 15);
+        x.change(0, 11);
+        Check.due("35: 34 has a GAIN of 11", x.gain(2, 34, 0), 11);
+        Check.due("35: the greatest GAIN ahead of the smaller VALUE", x.lie(2, 0), 34);
+        x.change(0, 9);
+        Check.due("35: 36 has a GAIN of 9", x.gain(2, 36, 0), 9);
+        Check.due("35: the greatest GAIN comes first", x.lie(2, 0), 15);
+        Check.due("35: RULE 1, none", x.lie(2, 1), -1);
+    }
+
     public static void main(String[] args) {
         noBidInTheSale();
         better();
         goodsInCommon();
         quick();
         quickTakesWhatFits();
+        quickLooksAtAll();
         promise28();
         promise29();
         promise30();
@@ -430,9 +517,12 @@ public final class SalesEdgesTest {
         promise32();
         lack();
         nearest();
+        winnersInTheWay();
+        threeAgainstOne();
         alikeLacks();
         promise34();
         promise35();
+        alikeGains();
         Check.end("SalesEdgesTest");
     }
 }
